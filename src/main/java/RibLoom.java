@@ -13,6 +13,7 @@ public final class RibLoom {
     private static final int MOST_VERSES = 8;
     private static final int MOST_STRENGTH = 99;
     private static final int MOST_SKILL = 9;
+    private static final int UNTOLD_SKILL = 3;
     private static final int MOST_THROW = 4095;
     private static final int MOST_ACTS = 40;
     private static final int MOST_KEPT = 9;
@@ -46,10 +47,10 @@ public final class RibLoom {
     // The rows are made once and used again by all calls: a run's room is small.
     private final byte[] tape = new byte[MOST_BYTES];
     private int taped = 0;
-    private final Reader reader = new Reader(tape);
     private int faultPlace = NONE;
     private Plan plan = new Plan();
     private Plan draft = new Plan();
+    private final Reader reader = new Reader(tape, draft);
     private final Ledger ledger = new Ledger();
     private Ledger imaged = null;
     private boolean imageKept = false;
@@ -62,6 +63,7 @@ public final class RibLoom {
     private final int[] gains = new int[8];
 
     public RibLoom() {
+        ledger.begin(plan);
     }
 
     // ---- the text ----
@@ -638,13 +640,12 @@ public final class RibLoom {
         boolean clansTold = false;
 
         Plan() {
-            skills[WEST] = 3;
-            skills[EAST] = 3;
+            clear();
         }
 
         void clear() {
-            skills[WEST] = 3;
-            skills[EAST] = 3;
+            skills[WEST] = UNTOLD_SKILL;
+            skills[EAST] = UNTOLD_SKILL;
             rots.told = false;
             weaves.told = false;
             ribs = 0;
@@ -693,7 +694,7 @@ public final class RibLoom {
 
         private final byte[] text;
         private int length = 0;
-        private Plan plan = null;
+        private Plan plan;
 
         // The token that is looked at.
         int place = 0;
@@ -711,8 +712,9 @@ public final class RibLoom {
         private boolean notFits = false;
         private boolean exprBegins = false;
 
-        Reader(byte[] tape) {
+        Reader(byte[] tape, Plan draft) {
             text = tape;
+            plan = draft;
         }
 
         int read(int many, Plan into) {
@@ -1032,11 +1034,6 @@ public final class RibLoom {
         int sails = 0;
         int kept = 0;
 
-        State() {
-            skills[WEST] = 3;
-            skills[EAST] = 3;
-        }
-
         void begin(Plan plan) {
             System.arraycopy(plan.strength, 0, strength, 0, MOST_RIBS);
             System.arraycopy(plan.skills, 0, skills, 0, 2);
@@ -1053,8 +1050,10 @@ public final class RibLoom {
         }
 
         void keepSail() {
-            System.arraycopy(keptGaps, 0, keptGaps, 1, MOST_KEPT - 1);
-            System.arraycopy(keptDays, 0, keptDays, 1, MOST_KEPT - 1);
+            for (int i = MOST_KEPT - 1; i > 0; i--) {
+                keptGaps[i] = keptGaps[i - 1];
+                keptDays[i] = keptDays[i - 1];
+            }
             keptGaps[0] = gaps;
             keptDays[0] = day;
             kept = Math.min(MOST_KEPT, kept + 1);
@@ -1555,7 +1554,9 @@ public final class RibLoom {
         private final Weaver weaver;
         private final State trial;
         private final int[] goneOn = new int[MOST_SEEN_DAYS + 1];
-        private long[] met = null;
+
+        // A bit for each day and set of GONE ribs that was met.
+        private final long[] met = new long[(MOST_SEEN_DAYS + 1) * WORDS];
 
         boolean searched = false;
         int fitting = 0;
@@ -1642,9 +1643,6 @@ public final class RibLoom {
         }
 
         private void forgetMet() {
-            if (met == null) {
-                met = new long[(MOST_SEEN_DAYS + 1) * WORDS];
-            }
             for (int i = 0; i < met.length; i++) {
                 met[i] = 0;
             }

@@ -17,6 +17,7 @@ public final class AheadTest {
         span();
         lost();
         pace();
+        twelve();
         nothingChanges();
         answersFollowChanges();
         CHECK.close("AheadTest");
@@ -96,6 +97,7 @@ public final class AheadTest {
         x.days(1);
         CHECK.due("of like ones the first", 1, x.widest());
         CHECK.due("none", -1, CHECK.told("jaw 5;weaves 0;").widest());
+        CHECK.due("all twelve are gaps", 1, CHECK.told("jaw 0;".repeat(12)).widest());
         // A rib that is shored between: the first sail from now on still has the gap on its way.
         RibLoom y = CHECK.told("jaw 0;jaw 5;jaw 5;jaw 5;clans 0 0;");
         y.days(1);
@@ -125,6 +127,14 @@ public final class AheadTest {
         RibLoom empty = CHECK.told("jaw 0;rib 0;");
         CHECK.due("no FALL of gone ones", -1, empty.fall(0));
         CHECK.due("no LAST of gone ones", -1, empty.fall(1));
+        RibLoom soon = CHECK.told("rib 1;jaw 0;");
+        CHECK.due("FALL behind 1", 0, soon.fall(0));
+        CHECK.due("LAST behind 1", 0, soon.fall(1));
+        RibLoom late = CHECK.told("jaw 0;jaw 5;rib 60;jaw 7;rib 60;");
+        late.sell(1);
+        late.shore(1, 1);
+        CHECK.due("FALL behind 60", 2, late.fall(0));
+        CHECK.due("LAST is not within 60", 1, late.fall(1));
         RibLoom same = CHECK.told("rib 5;jaw 9;rib 5;");
         same.sell(1);
         CHECK.due("of like ones the least", 0, same.fall(0));
@@ -224,6 +234,29 @@ public final class AheadTest {
         CHECK.due("none between them", 0, between.pace(0));
         RibLoom left = CHECK.told("jaw 1;jaw 0;jaw 2;jaw 4;weaves left;");
         CHECK.due("left", 3, left.pace(1));
+    }
+
+    private static void twelve() {
+        CHECK.topic("twelve ribs");
+        RibLoom x = CHECK.told("rib 30;".repeat(11) + "rib 40;clans 9 9;verse 4095;rots place/11+1;weaves left;");
+        CHECK.due("gone(11)", 20, x.gone(11));
+        CHECK.due("gone(10)", 30, x.gone(10));
+        CHECK.due("fall(0)", 11, x.fall(0));
+        CHECK.due("fall(1)", 0, x.fall(1));
+        CHECK.due("strongest(1)", 11, x.strongest(1));
+        CHECK.due("later(20, 3)", 2048, x.later(20, 3));
+        CHECK.due("lost(3, 0)", 39, x.lost(3, 0));
+        CHECK.due("done(1, 0)", 2, x.done(1, 0));
+        CHECK.due("done(1, 2)", 7, x.done(1, 2));
+        CHECK.due("span(0)", 12, x.span(0));
+        CHECK.due("verse(0, 1)", 4095, x.verse(0, 1));
+        CHECK.due("verse(0, 2)", 12, x.verse(0, 2));
+        CHECK.due("mirrored(0)", 0, x.mirrored(0));
+        CHECK.due("storms(11, 4, 10)", 10000, x.storms(11, 4, 10));
+        CHECK.due("strong(0)", 1176, x.strong(0));
+        x.see(11, 19, true);
+        CHECK.due("rib 11 with 1 to 38", 38, x.strong(0));
+        CHECK.due("the first", 1101, x.strong(1));
     }
 
     private static void nothingChanges() {

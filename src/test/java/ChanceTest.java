@@ -64,6 +64,13 @@ public final class ChanceTest {
         CHECK.due("21 to 99 live", 79, gone.strong(0));
         CHECK.due("the first", 21, gone.strong(1));
         CHECK.due("without", 0, gone.strong(2));
+        RibLoom now = CHECK.told("jaw 0;jaw 5;");
+        now.see(0, 0, true);
+        CHECK.due("gone now: all of the other one", 98, now.strong(0));
+        CHECK.due("the first", 101, now.strong(1));
+        CHECK.due("without", 1, now.strong(2));
+        now.see(1, 0, false);
+        CHECK.due("not gone now: the same", 98, now.strong(0));
         // By a strength of 1 of rib 0, rib 1 has one gone beside it from the first day on.
         RibLoom beside = CHECK.told("rib 50;rib 10;");
         beside.see(1, 5, true);
@@ -172,6 +179,18 @@ public final class ChanceTest {
                 CHECK.due("years(1, " + n + ", " + what + ")", due[n][what], x.years(1, n, what));
             }
         }
+        // Seed 3 draws 17747 7107 | 10365: 2 (WEST: 7), 5; seed -2 draws 31859 20118 | 9736: 2 (WEST: 8), 6.
+        RibLoom west = CHECK.told("jaw 5;jaw 5;jaw 5;jaw 5;jaw 5;clans 0 0;weaves skill*(1-place);");
+        CHECK.due("SKILL of WEST", 1, west.years(3, 1, 0));
+        CHECK.due("SKILL of WEST stays", 2, west.years(3, 2, 0));
+        CHECK.due("a seed below 0", 2, west.years(-2, 2, 0));
+        CHECK.due("not that of EAST", 0, west.years(1, 1, 0));
+        RibLoom east = CHECK.told("jaw 5;jaw 5;jaw 5;jaw 5;jaw 5;clans 0 0;weaves skill*(place-3)-3;");
+        CHECK.due("SKILL of EAST is 8: 5 ribs a day", 4, east.years(1, 4, 0));
+        CHECK.due("not that of WEST", 0, east.years(3, 2, 0));
+        RibLoom one = CHECK.told("jaw 5;");
+        CHECK.due("one rib is shored twice, and sold", 0, one.years(1, 6, 2));
+        CHECK.due("shored twice", 23, one.years(1, 5, 2));
         // Without ribs the draws behind 0 and 1 are left out, but nothing can be told from it.
         RibLoom none = CHECK.told("clans 1 0;");
         CHECK.due("no ribs: strength", 0, none.years(1, 60, 2));

@@ -389,6 +389,7 @@ public final class LoomTest {
         CHECK.due("40 acts are kept", 40, x.count(10));
         for (int left = 39; left >= 0; left--) {
             CHECK.due("undo()", left, x.undo());
+            CHECK.due("strength then", 6 + left, x.rib(0, 0));
         }
         CHECK.due("the first five stay", 6, x.rib(0, 0));
         CHECK.due("undo() without", -1, x.undo());

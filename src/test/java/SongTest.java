@@ -40,6 +40,13 @@ public final class SongTest {
         CHECK.due("of like ones the least", 0, x.missed());
         x.sell(0);
         CHECK.due("that isn't gone", 1, x.missed());
+        RibLoom eight = CHECK.told("jaw 0;".repeat(8) + "jaw 3;jaw 0;jaw 2;"
+            + "verse 0;verse 256;verse 1024;verse 1280;verse 511;verse 3;verse 5;verse 9;");
+        CHECK.due("rib 8 tells as much as rib 10", 8, eight.missed());
+        RibLoom all = CHECK.told("jaw 1;".repeat(12)
+            + "verse 0;verse 3;verse 12;verse 48;verse 192;verse 768;verse 3072;verse 4095;");
+        CHECK.due("none is missed: the least", 0, all.missed());
+        CHECK.due("eight kinds", 8, all.count(9));
         RibLoom quiet = CHECK.told("jaw 0;jaw 3;");
         CHECK.due("without verses", 1, quiet.missed());
         CHECK.due("all are gone", -1, CHECK.told("jaw 0;verse 1;").missed());

@@ -116,6 +116,9 @@ public final class TextTest {
         CHECK.fault("rib 1 12345;", 1, 6);
         CHECK.fault("ribs 1;", 1, 0);
         CHECK.fault("Rib 1;", 1, 0);
+        CHECK.fault("xib 1;", 1, 0);
+        CHECK.fault("rab 1;", 1, 0);
+        CHECK.fault("riz 1;", 1, 0);
         CHECK.fault("12345;", 1, 0);
         CHECK.fault(";", 1, 0);
         CHECK.fault("rib 1;\t", 1, 6);
@@ -176,6 +179,9 @@ public final class TextTest {
         CHECK.fault("rots 1 left;", 1, 7);
         CHECK.fault("rots 1 not 1;", 1, 7);
         CHECK.fault("rots days;", 3, 5);
+        CHECK.fault("rots xay;", 3, 5);
+        CHECK.fault("rots 1 xr 1;", 1, 7);
+        CHECK.fault("rots 1 azd 1;", 1, 7);
     }
 
     private static void operations() {
