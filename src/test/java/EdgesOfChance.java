@@ -144,6 +144,29 @@ final class EdgesOfChance {
         c.due("without", 0, x.strong(2));
     }
 
+    static void promise35OneThatWasTheFirstIsNoneThen(Checks c) {
+        RibLoom x = c.told("rib 50;");
+        c.due("the first", 1, x.strong(1));
+        c.due("look(0)", 1, x.look(0));
+        x.see(0, 0, true);
+        c.due("none", -1, x.strong(1));
+        c.due("none to look for", -1, x.look(0));
+        x.forget();
+        c.due("the first again", 1, x.strong(1));
+        c.due("look(0) again", 1, x.look(0));
+        x.sell(0);
+        c.due("99 of one that is gone", 99, x.strong(0));
+        x.undo();
+        c.due("98 of one that is there", 98, x.strong(0));
+        x.image();
+        x.see(0, 20, true);
+        c.due("20", 20, x.strong(0));
+        x.restore();
+        c.due("98 again", 98, x.strong(0));
+        Checks.tell(x, "rib 0;");
+        c.due("99 of another loom", 99, x.strong(0));
+    }
+
     static void promise35WithoutRibsNoneAndSoWithout(Checks c) {
         RibLoom x = new RibLoom();
         c.due("how many", 0, x.strong(0));
@@ -205,6 +228,23 @@ final class EdgesOfChance {
         RibLoom x = c.told("rib 50;".repeat(12) + "rots 1;");
         c.due("behind 1", 1, x.look(0));
         c.due("none, or one of twelve", 13, x.look(1));
+    }
+
+    static void promise36ThirteenOfTwelveThatAreGone(Checks c) {
+        RibLoom x = c.told("rib 0;".repeat(12) + "rots 1;");
+        c.due("behind 1", 1, x.look(0));
+        c.due("all, or all but one", 13, x.look(1));
+        RibLoom last = c.told("jaw 0;".repeat(11) + "rib 0;rots (day=19)*20;");
+        c.due("behind 20", 20, last.look(0));
+        c.due("twelve that are back, or none", 13, last.look(1));
+    }
+
+    static void promise36ByAStrengthOf99Too(Checks c) {
+        RibLoom x = c.told("rib 50;rots (strength<99)*20;");
+        x.see(0, 5, false);
+        c.due("99 alone", 1, x.strong(0));
+        c.due("behind 1", 1, x.look(0));
+        c.due("one", 1, x.look(1));
     }
 
     static void promise36NoneWithoutAny(Checks c) {
@@ -385,6 +425,14 @@ final class EdgesOfChance {
         game(c, sail + "(day=2);", 1, 0);
     }
 
+    static void promise39SixForASailIsMoreThanOneRibLessThanTwo(Checks c) {
+        // A song gains 6 less 3, and takes the RIBS that WEST would be past: 2 for one, 4 for two.
+        game(c, "jaw 9;jaw 9;clans 0 0;weaves (place=0)*(day=1)*(1+(skill=3));", 1, 10);
+        game(c, "jaw 9;jaw 9;jaw 9;clans 0 0;weaves (place=0)*(day=1)*(2+(skill=3));", 1, 0);
+        game(c, "jaw 9;jaw 9;clans 0 0;weaves (place=1)*(day=1)*(1+(skill=3));", 1, 1);
+        game(c, "jaw 9;jaw 9;jaw 9;clans 0 0;weaves (place=2)*(day=1)*(2+(skill=3));", 1, 0);
+    }
+
     static void promise39SixOnceForTwoSailsToo(Checks c) {
         // Without a song one sail is done, with WEST's two: six for either, less the song.
         game(c, "jaw 9;jaw 9;clans 5 0;weaves skill/4;", 1, 0);
@@ -559,13 +607,17 @@ final class EdgesOfChance {
         }
         x.image();
         for (int i = 0; i < 40; i++) {
-            x.undo();
+            x.teach(0, i % 2 == 0 ? 9 : 8);
         }
         x.forget();
-        x.sell(0);
+        for (int i = 0; i < 8; i++) {
+            x.see(0, 0, true);
+        }
         c.due("restore()", 1, x.restore() ? 1 : 0);
+        c.due("skill", 3, x.skill(0));
         c.due("strength", 42, x.rib(0, 0));
         c.due("SEEN", 8, x.count(11));
+        c.due("98 by what is SEEN", 98, x.strong(0));
         for (int left = 39; left >= 0; left--) {
             c.due("undo()", left, x.undo());
             c.due("strength", 2 + left, x.rib(0, 0));
@@ -628,9 +680,7 @@ final class EdgesOfChance {
     }
 
     static void promise42AllThatDaysAndActsChange(Checks c) {
-        RibLoom x = c.told("jaw 0;jaw 9;jaw 9;jaw 9;rib 99;clans 0 4;");
-        x.days(3);
-        x.teach(0, 1);
+        RibLoom x = EdgesOfLooms.unlikeInAll(c);
         x.image();
         String then = new Watch(c, x).all(-1);
         x.days(20);
@@ -642,6 +692,37 @@ final class EdgesOfChance {
         x.see(1, 1, true);
         c.due("restore()", 1, x.restore() ? 1 : 0);
         c.due("all is as then", 1, then.equals(new Watch(c, x).all(-1)) ? 1 : 0);
+    }
+
+    static void promise42ActsAreUndoneAsThen(Checks c) {
+        RibLoom x = EdgesOfLooms.unlikeInAll(c);
+        RibLoom twin = EdgesOfLooms.unlikeInAll(c);
+        x.image();
+        for (int i = 0; i < 20; i++) {
+            x.undo();
+        }
+        for (int i = 0; i < 40; i++) {
+            x.shore(3, 1);
+        }
+        x.restore();
+        for (int left = 9; left >= 0; left--) {
+            c.due("undo()", left, x.undo());
+            twin.undo();
+            c.due("as the twin's", 1, new Watch(c, twin).all(-1).equals(new Watch(c, x).all(-1)) ? 1 : 0);
+        }
+    }
+
+    static void promise42EachOfWhatIsSeenAsThen(Checks c) {
+        RibLoom x = c.told("rib 50;rib 60;");
+        x.see(1, 7, true);
+        x.see(1, 6, false);
+        x.image();
+        x.forget();
+        x.see(0, 3, false);
+        x.see(0, 2, true);
+        c.due("restore()", 1, x.restore() ? 1 : 0);
+        c.due("how many", 1, x.strong(0));
+        c.due("rib 1 with 7", 107, x.strong(1));
     }
 
     static void promise42TheTapeAndTheFaultsPlaceAreNoPartOfIt(Checks c) {

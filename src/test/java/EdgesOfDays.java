@@ -253,8 +253,14 @@ final class EdgesOfDays {
         gives(c, "9-4+3", 8);
         gives(c, "16/4/2", 2);
         gives(c, "16/4*2", 8);
-        gives(c, "2*16/5", 6);
+        gives(c, "2*9/5", 3);
         gives(c, "2+3*4", 14);
+        gives(c, "9-2*3", 3);
+        gives(c, "2*3+4", 10);
+        gives(c, "9-8/4", 7);
+        gives(c, "8/4-1", 1);
+        gives(c, "2*3=6", 1);
+        gives(c, "0<9-9", 0);
         gives(c, "1+1<1*3", 1);
         gives(c, "not 1<0", 1);
         gives(c, "not 0 and 0", 0);

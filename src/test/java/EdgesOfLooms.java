@@ -259,6 +259,23 @@ final class EdgesOfLooms {
         c.due("the one before", 0, x.sail(1, 0));
     }
 
+    static void promise8NineWithGapsOfTheirOwn(Checks c) {
+        RibLoom x = c.told("jaw 1;jaw 1;jaw 1;jaw 1;weaves 5;");
+        for (int gaps = 0; gaps < 12; gaps++) {
+            for (int r = 0; r < 4; r++) {
+                boolean gone = (x.count(7) >> r & 1) == 1;
+                if (gone != ((gaps >> r & 1) == 1)) {
+                    c.due("sell or shore", 1, gone ? x.shore(r, 1) : x.sell(r));
+                }
+            }
+            x.days(1);
+        }
+        for (int i = 0; i < 9; i++) {
+            c.due("GAPS of sail " + i, 11 - i, x.sail(i, 0));
+            c.due("DAY of sail " + i, 11 - i, x.sail(i, 1));
+        }
+    }
+
     // ---- promise 9 ----
 
     static void promise9Clans0And1(Checks c) {
@@ -482,6 +499,43 @@ final class EdgesOfLooms {
         c.due("undo() the day", 0, x.undo());
         c.due("DAY", 0, x.count(2));
         c.due("strength at first", 50, x.rib(0, 0));
+    }
+
+    /** All of it unlike: 3 and 1 are past, GAPS 18, DAY 15, 13 sails, 9 KEPT with other GAPS, SKILL 1 and 7. */
+    static RibLoom unlikeInAll(Checks c) {
+        RibLoom x = c.told("jaw 9;jaw 8;jaw 7;jaw 6;rib 99;clans 5 7;weaves skill*(place<3);");
+        x.days(10);
+        for (int r = 0; r < 2; r++) {
+            x.sell(r);
+            x.days(1);
+        }
+        x.shore(0, 5);
+        x.days(1);
+        x.sell(4);
+        x.teach(0, 1);
+        x.days(2);
+        int[] due = {5, 0, 15, 3, 1, 13, 9, 18, 18, 0, 10, 0, 0, 0, 0, 0};
+        for (int what = 0; what < 16; what++) {
+            c.due("count(" + what + ")", due[what], x.count(what));
+        }
+        int[] gaps = {2, 3, 1, 0, 0, 0, 0, 0, 0};
+        for (int i = 0; i < 9; i++) {
+            c.due("GAPS of sail " + i, gaps[i], x.sail(i, 0));
+        }
+        return x;
+    }
+
+    static void promise15AllIsAsItWas(Checks c) {
+        RibLoom x = unlikeInAll(c);
+        Checks.Call[] acts = {() -> x.days(1), () -> x.days(20), () -> x.sell(2), () -> x.shore(1, 30), x::unpick,
+            () -> x.teach(0, 9), () -> x.teach(1, 0)};
+        for (int i = 0; i < acts.length; i++) {
+            Checks.Call act = acts[i];
+            new Watch(c, x).answers(10, "act " + i + " and undo()", () -> {
+                act.answer();
+                return x.undo();
+            });
+        }
     }
 
     static void promise15ASailThatFellOutIsKeptAgain(Checks c) {

@@ -116,6 +116,10 @@ final class EdgesOfSongs {
         c.due("order(-1)", 0, x.order(-1));
         c.none("order(0)", () -> x.order(0));
         c.none("order(-2)", () -> x.order(-2));
+        RibLoom y = c.told(TWELVE + "verse 0;verse 7;");
+        c.due("with two", 3, y.order(-1));
+        Checks.tell(y, TWELVE);
+        c.due("and then without", 0, y.order(-1));
     }
 
     static void promise25OneVerse(Checks c) {

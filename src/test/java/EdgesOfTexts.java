@@ -232,6 +232,41 @@ final class EdgesOfTexts {
         c.none("verse(0, 0)", () -> x.verse(0, 0));
     }
 
+    static void promise3AFaultyTextLeavesNothingToTheNextOne(Checks c) {
+        RibLoom x = new RibLoom();
+        String all = "jaw 1;".repeat(12) + "verse 1;".repeat(8) + "clans 9 9;weaves 5;";
+        c.due("a long text", 1, Checks.tell(x, all + "rots 7+((1*(1<"));
+        c.due("a short one", 0, Checks.tell(x, "rib 50;rib 40;"));
+        c.due("RIBS", 2, x.count(0));
+        c.due("no jaw", 0, x.rib(0, 1));
+        c.due("verses", 0, x.count(1));
+        c.due("skill", 3, x.skill(0));
+        c.due("WEAVES is not told", 1, x.pace(0));
+        c.due("ROTS is not told", 49, x.then(0, 1));
+        Checks.tell(x, "clans 1 1;rots (((1+");
+        c.due("all of it once more", 0, Checks.tell(x, "rib 50;clans 2 3;verse 7;weaves 2;rots 2*(1+1);"));
+        c.due("RIBS again", 1, x.count(0));
+        c.due("verses again", 1, x.count(1));
+        c.due("skill again", 2, x.skill(0));
+        c.due("WEAVES", 2, x.pace(0));
+        c.due("ROTS", 46, x.then(0, 1));
+    }
+
+    static void promise3TheThirdAndTheFourthTextAreAnewToo(Checks c) {
+        RibLoom x = new RibLoom();
+        for (int i = 0; i < 4; i++) {
+            c.due("with all", 0, Checks.tell(x, "jaw 9;".repeat(12) + "verse 1;".repeat(8) + "clans 9 9;rots 9;weaves 5;"));
+            c.due("RIBS", 12, x.count(0));
+            c.due("verses", 8, x.count(1));
+            c.due("pace", 5, x.pace(0));
+            c.due("without", 0, Checks.tell(x, "rib 9;"));
+            c.due("RIBS", 1, x.count(0));
+            c.due("verses", 0, x.count(1));
+            c.due("rot", 8, x.then(0, 1));
+            c.due("pace", 1, x.pace(0));
+        }
+    }
+
     static void promise3TheSameTextAgainIsAnewToo(Checks c) {
         String text = "rib 9;jaw 5;jaw 5;jaw 5;clans 0 0;";
         RibLoom x = c.told(text);
