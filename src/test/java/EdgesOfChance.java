@@ -684,7 +684,7 @@ final class EdgesOfChance {
         x.image();
         String then = new Watch(c, x).all(-1);
         x.days(20);
-        x.unpick();
+        c.due("sails", 20, x.count(5) - 13);
         x.teach(0, 9);
         x.teach(1, 9);
         x.sell(1);

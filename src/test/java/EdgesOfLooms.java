@@ -503,7 +503,7 @@ final class EdgesOfLooms {
 
     /** All of it unlike: 3 and 1 are past, GAPS 18, DAY 15, 13 sails, 9 KEPT with other GAPS, SKILL 1 and 7. */
     static RibLoom unlikeInAll(Checks c) {
-        RibLoom x = c.told("jaw 9;jaw 8;jaw 7;jaw 6;rib 99;clans 5 7;weaves skill*(place<3);");
+        RibLoom x = c.told("jaw 9;jaw 8;jaw 7;jaw 6;rib 99;clans 5 7;weaves skill*(place<3 or 14<day);");
         x.days(10);
         for (int r = 0; r < 2; r++) {
             x.sell(r);

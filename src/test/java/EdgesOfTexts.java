@@ -252,6 +252,24 @@ final class EdgesOfTexts {
         c.due("ROTS", 46, x.then(0, 1));
     }
 
+    static void promise3AnExprThatEndsTooSoonLeavesNothingToTheNextOne(Checks c) {
+        RibLoom x = new RibLoom();
+        String[] cut = {"rots 1<", "rots not not not not not not", "rots ((((((", "rots 1 or 1 and 1=1+1*", "rots ("};
+        for (String text : cut) {
+            c.due(text, 1, Checks.tell(x, text));
+            c.due("behind " + text, 0, Checks.tell(x, "rib 50;rots 1<2;"));
+            c.due("rot", 49, x.then(0, 1));
+        }
+    }
+
+    static void promise3LongTextsOneAfterTheOther(Checks c) {
+        RibLoom x = new RibLoom();
+        for (int i = 0; i < 8; i++) {
+            c.due("loom " + i, 0, Checks.tell(x, "rib 99;rots " + i + "+1".repeat(9) + "+1-1".repeat(160) + ";"));
+            c.due("rot " + i, 90 - i, x.then(0, 1));
+        }
+    }
+
     static void promise3TheThirdAndTheFourthTextAreAnewToo(Checks c) {
         RibLoom x = new RibLoom();
         for (int i = 0; i < 4; i++) {
@@ -323,6 +341,9 @@ final class EdgesOfTexts {
 
     static void promise3AWordIsTheLongestRow(Checks c) {
         c.fault("ribs 1;", 1, 0);
+        c.fault("bib 1;", 1, 0);
+        c.fault("rab 1;", 1, 0);
+        c.fault("rid 1;", 1, 0);
         c.fault("ri b 1;", 1, 0);
         c.fault("ribjaw 1;", 1, 0);
         c.fault("rotsday;", 1, 0);
