@@ -694,6 +694,22 @@ final class EdgesOfChance {
         c.due("all is as then", 1, then.equals(new Watch(c, x).all(-1)) ? 1 : 0);
     }
 
+    static void promise42AsManyKeptSailsAsThen(Checks c) {
+        RibLoom x = c.told("jaw 1;");
+        x.image();
+        x.days(9);
+        c.due("restore()", 1, x.restore() ? 1 : 0);
+        c.due("none", 0, x.count(6));
+        c.none("sail(0, 0)", () -> x.sail(0, 0));
+        x.days(2);
+        x.image();
+        x.days(20);
+        c.due("restore()", 1, x.restore() ? 1 : 0);
+        c.due("two", 2, x.count(6));
+        c.due("DAY of the latest", 1, x.sail(0, 1));
+        c.none("sail(2, 1)", () -> x.sail(2, 1));
+    }
+
     static void promise42ActsAreUndoneAsThen(Checks c) {
         RibLoom x = EdgesOfLooms.unlikeInAll(c);
         RibLoom twin = EdgesOfLooms.unlikeInAll(c);
