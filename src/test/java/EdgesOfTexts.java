@@ -12,6 +12,27 @@ final class EdgesOfTexts {
         c.due("restore()", 0, x.restore() ? 1 : 0);
     }
 
+    static void promise1TheFiveHundredAndTwelfthCallAnswersToo(Checks c) {
+        RibLoom refused = new RibLoom();
+        for (int call = 1; call < 512; call++) {
+            refused.days(0);
+        }
+        c.due("refused acts", 511, refused.count(14));
+
+        RibLoom acted = new RibLoom();
+        for (int call = 1; call < 512; call++) {
+            c.due("teach(0, ..)", call == 1 ? 3 : 8 + call % 2, acted.teach(0, 9 - call % 2));
+        }
+        c.due("undo()", 39, acted.undo());
+
+        RibLoom retold = new RibLoom();
+        for (int texts = 1; texts <= 255; texts++) {
+            c.due("loom(7)", 0, Checks.tell(retold, "rib " + (10 + texts % 50) + ";"));
+        }
+        c.due("strength of the last text", 15, retold.rib(0, 0));
+        c.due("strength behind a day", 14, retold.then(0, 1));
+    }
+
     static void promise1SkillIs3EachWithoutATelling(Checks c) {
         RibLoom x = new RibLoom();
         c.due("skill(0)", 3, x.skill(0));

@@ -45,12 +45,10 @@ public final class ModelTest {
     }
 
     private int oneRun() {
-        int calls = 0;
         for (int i = 0; i < 3 && wrong == 0; i++) {
             tell(text());
             for (int j = 0; j < 100 && wrong == 0; j++) {
                 oneCall(CALLS[random.nextInt(CALLS.length)]);
-                calls++;
             }
         }
         return wrong;
